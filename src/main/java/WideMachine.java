@@ -167,7 +167,12 @@ public final class WideMachine {
             return;
         }
         takeInterrupt();
-        doPacket();
+        int end = endOfPacket();
+        state = faultOfPacket(end);
+        if (state == GOING) {
+            doPacket(end);
+            address = end;
+        }
     }
 
     private void landWrites() {
@@ -202,22 +207,6 @@ public final class WideMachine {
                 return;
             }
         }
-    }
-
-    private void doPacket() {
-        int end = endOfPacket();
-        state = faultOfPacket(end);
-        if (state != GOING) {
-            return;
-        }
-        for (int at = address; at < end; at++) {
-            if (isConditionTrue(program[at])) {
-                doWord(program[at]);
-            }
-        }
-        // Only now: a LOAD of the packet, wherever it stands, reads the data as they were.
-        doStores(end);
-        address = end;
     }
 
     /** The address behind the packet, NONE if the packet has no end in its row and the program. */
@@ -312,6 +301,16 @@ public final class WideMachine {
 
     private int operandB(int w) {
         return Word.isNumberB(w) ? Word.numberB(w) : registers[Word.b(w)];
+    }
+
+    private void doPacket(int end) {
+        for (int at = address; at < end; at++) {
+            if (isConditionTrue(program[at])) {
+                doWord(program[at]);
+            }
+        }
+        // Only now: a LOAD of the packet, wherever it stands, reads the data as they were.
+        doStores(end);
     }
 
     private void doWord(int w) {
@@ -524,6 +523,9 @@ public final class WideMachine {
 
     /** What the operations that have nothing to do but reckon make of a and b. */
     private static final class Values {
+        private static final int MOST_INT = 2147483647;
+        private static final int LEAST_INT = -2147483648;
+
         static int ofL(int code, int a, int b) {
             switch (code) {
                 case Word.L_ADD: return a + b;
@@ -570,10 +572,10 @@ public final class WideMachine {
         }
 
         private static int nearestInt(long v) {
-            if (v > Integer.MAX_VALUE) {
-                return Integer.MAX_VALUE;
+            if (v > MOST_INT) {
+                return MOST_INT;
             }
-            return v < Integer.MIN_VALUE ? Integer.MIN_VALUE : (int) v;
+            return v < LEAST_INT ? LEAST_INT : (int) v;
         }
 
         private static int bitsLikeHighest(int v) {

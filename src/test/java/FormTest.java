@@ -126,6 +126,8 @@ public final class FormTest {
         check.same("one from each side", stateOf(fromOne, fromNull), 0);
         check.same("M and L of side 0", stateOf(fromOne, Asm.op(Asm.M0, Asm.MPY, 2, 2, 30)), 4);
         check.same("D and L of side 1", stateOf(fromNull, Asm.op(Asm.D1, Asm.ADD, 18, 18, 0)), 4);
+        check.same("two of side 0, one of side 1 between",
+            stateOf(fromOne, fromNull, Asm.op(Asm.M0, Asm.MPY, 2, 2, 30)), 4);
         check.same("one of two is not done",
             stateOf(fromOne, Asm.ifZero(1, Asm.op(Asm.M0, Asm.MPY, 2, 2, 30))), 4);
         check.same("a number is no register", stateOf(fromOne, Asm.opN(Asm.M0, Asm.MPY, 2, 2, -1)), 0);
@@ -188,6 +190,12 @@ public final class FormTest {
         x.start(15);
         x.run(1);
         check.same("the last word of a row goes on", x.about(0), 1);
+        for (int i = 0; i < 8; i++) {
+            x.word(i, Asm.and(Asm.idle()));
+        }
+        x.start(0);
+        x.run(1);
+        check.same("all words of the first row go on", x.about(0), 1);
         x.word(15, Asm.op(Asm.D1, Asm.ADD, 23, 16, 16));
         x.start(8);
         x.run(1);
@@ -227,6 +235,11 @@ public final class FormTest {
         most.start(255);
         most.run(1);
         check.same("the last row of 256 words", most.about(0), 1);
+        WideMachine cut = new WideMachine(23, 16);
+        Asm.packet(cut, 16, Asm.idle(), 0, 0, 0, 0, 0, 0, 0);
+        cut.start(16);
+        cut.run(1);
+        check.same("only the last word of the row is beyond the program", cut.about(0), 8);
     }
 
     private static void target(WideMachine x, int branch, int address) {
