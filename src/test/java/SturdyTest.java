@@ -1,7 +1,8 @@
 /** LANGUAGE.md, rules 6 and 7: whatever the calls and the words, no call throws, and answers stay in bounds. */
 public final class SturdyTest {
     private static final int MACHINES = 4000;
-    private static final int CALLS = 200;
+    // With the calls that look at the answers they stay below the document's 512.
+    private static final int CALLS = 60;
     private static final int[] EDGES = {
         Integer.MIN_VALUE, Integer.MAX_VALUE, -1, 0, 1, 2, 3, 4, 8, 9, 15, 16, 31, 32, 255, 256, 2000, 2001,
     };
