@@ -259,7 +259,12 @@ public final class StatesTest {
         check.same("the address is that behind the packet", x.about(1), 12);
         check.same("a write of its packet is due", x.due(0, 1), 51);
         check.same("a STORE of its packet is done", x.peek(2), 50);
-        check.same("a WAIT of its packet is done", x.about(5), 6);
+        check.same("a WAIT behind it in its packet is done", x.about(5), 6);
+        Asm.packet(x, 14, Asm.waitN(Asm.S0, 7), Asm.halt(Asm.S1));
+        x.start(14);
+        x.run(1);
+        check.same("a WAIT before it in its packet is done", x.about(5), 7);
+        check.same("a WAIT before it in its packet: state", x.about(0), 9);
         Asm.packet(x, 16, Asm.go(Asm.S0, 3), Asm.halt(Asm.S1));
         x.start(16);
         x.run(1);
